@@ -1121,16 +1121,17 @@ public final class StatueRent {
         }
 
         int tryMove(int a, int q) {
-            if (bit(evicted, a)) {
+            int left = place[a];
+            if (left == NONE) {
                 return 1;
             }
-            if (place[a] == q) {
+            if (left == q) {
                 return 2;
             }
             if (standing[q] != NONE) {
                 return 3;
             }
-            standing[place[a]] = NONE;
+            standing[left] = NONE;
             standing[q] = a;
             place[a] = q;
             return 0;
