@@ -74,6 +74,17 @@ public final class AskCityTest {
         // he looks each time while his chance is 12, then by draws; a walker who looks at nothing rests
         Check y = Check.of("square a 0;kind k;kind l;statue s k a 0 0;walker w a a 1 1;likes w k 12;likes w l 11;");
         y.due(1, "days", 1, 0).row("likes", new int[] {0, 0}, 12, 1, 6).row("likes", new int[] {0, 1}, 11, 0, 11);
+        // by these seeds the first draw is 0: he looks while his chance is 1 at least, and tires three times at most
+        Check v = Check.of("square a 0;kind k;statue s k a 0 0;walker w a a 1 1;likes w k 12;");
+        int[] tiredThen = {1, 2, 3, 3, 3};
+        for (int tired : tiredThen) {
+            v.due(1, "days", 1, seedOfZero()).due(tired, "likes", 0, 0, 1).due(12 >> tired, "likes", 0, 0, 2);
+        }
+        v.due(5, "walker", 0, 5).due(5, "statue", 0, 6);
+        // tired of two kinds of three
+        Check u = Check.of("square a 0;square b 0;path a b;kind j;kind k;kind l;statue s k a 0 0;statue t l b 0 0;walker w a b 1 1;"
+                + "likes w k 12;likes w l 12;").due(1, "days", 1, 1).due(6, "walker", 0, 6);
+        u.due(0, "likes", 0, 0, 1).due(1, "likes", 0, 1, 1).due(1, "likes", 0, 2, 1);
         // 11 halved and cut again and again
         Check z = Check.of("square a 0;square b 0;square c 0;kind k;statue s k a 0 0;walker w a a 1 1;likes w k 11;");
         int[] chances = {11, 5, 2, 1};
@@ -82,6 +93,14 @@ public final class AskCityTest {
             z.due(chances[Math.max(0, Math.min(3, tired))], "likes", 0, 0, 2).due(1, "days", 1, 7 * i);
             z.due(11, "likes", 0, 0, 0);
         }
+    }
+
+    private static int seedOfZero() {
+        int seed = 1;
+        while ((seed * 1103515245 + 12345 >>> 8) % 12 != 0) {
+            seed++;
+        }
+        return seed;
     }
 
     private static void sums() {

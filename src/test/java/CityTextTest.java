@@ -85,6 +85,8 @@ public final class CityTextTest {
         badBehind("path a;", 1, 6);
         badBehind("path 1 b;", 1, 5);
         badBehind("path a b a;", 1, 9);
+        badBehind("path a b1;", 1, 7);
+        badBehind("walker x a b 1 1000;", 1, 15);
         badBehind("statue t;", 1, 8);
         badBehind("statue t l;", 1, 10);
         badBehind("statue t l b;", 1, 12);
@@ -121,6 +123,8 @@ public final class CityTextTest {
     private static void namesNotAsTold() {
         bad("kind a;kind a;", 3, 12);
         bad("kind a;square a 1;", 3, 14);
+        bad("square a 1;kind a;", 3, 16);
+        bad("square a 1;square a 1;", 3, 18);
         badBehind("statue k k b 1 1;", 3, 7);
         badBehind("walker s a b 1 1;", 3, 7);
         badBehind("kind w;", 3, 5);
@@ -196,6 +200,8 @@ public final class CityTextTest {
         bad(line + Check.times(932, " "), 1, 900);
         bad(line + Check.times(892, " ") + "kind c;", 1, 900);
         bad(line + Check.times(893, " ") + ".", 1, 900);
+        bad("square ab 1;path ab" + Check.times(881, " ") + "cd;", 1, 900);
+        bad("kind cd;kind" + Check.times(886, " ") + "ab;kind", 1, 900);
         // a FAULT ahead comes first, and a TOKEN that begins ahead is read whole
         bad(line + Check.times(891, " ") + "..", 1, 899);
         bad("square" + Check.times(892, " ") + "a 100;", 1, 900);
@@ -224,5 +230,11 @@ public final class CityTextTest {
         x.row("statue", new int[] {0}, 0, 1, 7, 0, 0, 0, 0, 0).due(Check.NONE, "square", 0, 1).due(0, "square", 1, 1);
         x.row("likes", new int[] {0, 0}, 6, 0, 6).due(3, "count", 5).due(0, "walker", 0, 5).due(0, "walker", 0, 6);
         x.due(Check.NONE, "said", Check.NONE).due(Check.NONE, "undo");
+        // nothing is left of paths, ways, likings and statues that were told before, with a FAULT or without
+        Check y = Check.of("square a 1;square b 2;path a b;kind k;statue s k b 1 1;walker w a b 1 1;likes w k 3;arrears 5;");
+        y.tape("square a 1;square b 2;square c 3;path a c;path a b;walker v b c 1 1;.").due(-69, "city");
+        y.tape("square a 1;square b 2;kind k;walker w a b 1 1;walker v b b 1 1;").due(5, "city");
+        y.row("square", new int[] {0}, 1, Check.NONE, 0, 0).row("square", new int[] {1}, 2, Check.NONE, 0, 2);
+        y.due(0, "walker", 0, 4).due(1, "walker", 1, 4).due(1, "way", 1, 0).due(6, "likes", 0, 0, 0).row("count", 2, 0, 1, 0, 2, 3);
     }
 }

@@ -22,7 +22,7 @@ public final class FutureTest {
         // t owes 2, 5, 8, .. in the evenings of days 2, 3, 4
         Check x = town(1).due(1, "law", 2, 4, 1).due(2, "law", 2, 5, 1).due(3, "law", 2, 6, 1).due(9, "law", 2, 12, 1);
         x.due(Check.NONE, "law", 2, 13, 1).due(Check.NONE, "law", 2, 60, 1).due(1, "law", 0, 60, 1).due(1, "law", 4, 60, 1);
-        x.due(9, "law", 6, 12, 1);
+        x.due(9, "law", 6, 12, 1).due(1, "law", 2, 1, 1);
     }
 
     /** The least arrears by which a city told with them, lived by days(), keeps the statue. */
@@ -54,7 +54,7 @@ public final class FutureTest {
         x.due(4, "bare", 60, 1).due(4, "bare", 5, 1).due(Check.NONE, "bare", 4, 1).due(Check.NONE, "bare", 1, 1);
         x.due(Check.NONE, "bare", 0, 1).due(Check.NONE, "bare", 61, 1).due(Check.NONE, "bare", -5, 1);
         x.due(3, "days", 3, 1).due(Check.NONE, "bare", 1, 1).due(4, "bare", 2, 1);
-        x.due(2, "days", 2, 1).due(1, "now", 1).due(Check.NONE, "bare", 60, 1);
+        x.due(1, "days", 1, 1).due(4, "bare", 1, 1).due(1, "days", 1, 1).due(1, "now", 1).due(Check.NONE, "bare", 60, 1);
         for (int seed = 0; seed < 20; seed++) {
             Check y = Check.of("square a 2;kind k;statue s k a 1 0;walker w a a 1 3;likes w k 9;arrears 2;");
             int first = Check.NONE;

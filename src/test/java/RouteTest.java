@@ -75,7 +75,7 @@ public final class RouteTest {
         x.due(1, "bids", 0, 1).row("bid", 5, 9, Check.NONE).due(Check.NONE, "bid", -1);
         // s bids up to its purse for a route that never passes it
         x.due(16, "bids", 1, 1).row("bid", 20, 9, Check.NONE);
-        x.due(1, "bids", 1, 2).row("bid", 5, 9, Check.NONE);
+        x.due(1, "bids", 1, 2).row("bid", 5, 9, Check.NONE).due(1, "bids", 1, 8);
         // the statues' own bribes stay as told; what is not so leaves what was told
         x.due(16, "bids", 1, 1).due(5, "statue", 0, 4).due(Check.NONE, "bids", 1, 9).row("bid", 20, 9, Check.NONE);
         x.due(9, "route", 1, 1).due(14, "route", 1, 2);
