@@ -545,8 +545,12 @@ public final class StatueRent {
         if (lives == 0) {
             return logReader.liveThrough(spare);
         }
-        past.keep(spare);
-        return logReader.liveThrough(life);
+        int wrongLine = logReader.liveThrough(life);
+        // a LOG of which no LINE was lived leaves nothing that could be undone
+        if (logReader.linesDone > 0) {
+            past.keep(spare);
+        }
+        return wrongLine;
     }
 
     public int logged(int what) {

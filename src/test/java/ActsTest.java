@@ -12,6 +12,7 @@ public final class ActsTest {
         undoesEachAct();
         keepsEight();
         undoesAllOfALog();
+        logsNotLived();
         Check.finish();
     }
 
@@ -107,5 +108,34 @@ public final class ActsTest {
             y.due(i < 6 ? 60 : 40, "days", 60, 1);
         }
         y.due(0, "days", 1, 1).due(6, "undo").due(360, "now", 0);
+    }
+
+    /** A LOG of which no LINE was lived is not undone: neither an empty one nor one that is WRONG at once. */
+    private static void logsNotLived() {
+        new Check().due(Check.NONE, "log", 1).due(Check.NONE, "undo");
+        Check x = Check.of(TOWN).tape("").due(Check.NONE, "log", 1).tape(" \n ").due(Check.NONE, "log", 1).due(Check.NONE, "undo");
+        for (String wrong : new String[] {"s moves a;", "s cleans;", "s shows k;", "s lends t 1;", "s lends s 1;"}) {
+            x.tape(wrong + "day 1;").due(0, "log", 1).due(0, "now", 0).due(Check.NONE, "undo");
+        }
+        // one LINE that was lived is enough
+        x.tape("s moves d;s moves d;").due(1, "log", 1).due(3, "statue", 0, 1).due(0, "undo").due(0, "statue", 0, 1);
+        // what was done ahead of it is the latest still
+        x.due(0, "move", 0, 3).due(1, "days", 1, 1).tape("").due(Check.NONE, "log", 1).tape("t moves d;").due(0, "log", 1);
+        x.due(1, "undo").due(0, "now", 0).due(3, "statue", 0, 1).due(0, "undo").due(0, "statue", 0, 1).due(Check.NONE, "undo");
+        // none of the eight that are kept makes room for it
+        for (int i = 0; i < 8; i++) {
+            x.due(1, "days", 1, i);
+        }
+        x.tape("").due(Check.NONE, "log", 1).tape("t moves b;").due(0, "log", 1).due(7, "undo").due(7, "now", 0);
+        for (int left = 6; left >= 0; left--) {
+            x.due(left, "undo").due(left, "now", 0);
+        }
+        x.due(Check.NONE, "undo");
+        fewerDaysLeft();
+    }
+
+    private static void fewerDaysLeft() {
+        Check y = Check.of("kind k;").tape(Check.times(6, "day 60;") + "day 39;").due(Check.NONE, "log", 1);
+        y.tape("day 2;").due(0, "log", 1).due(399, "now", 0).due(0, "undo").due(0, "now", 0).due(Check.NONE, "undo");
     }
 }
