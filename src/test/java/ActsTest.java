@@ -35,9 +35,19 @@ public final class ActsTest {
         x.due(1, "days", 1, 1).due(7, "now", 6).due(0, "clean", 0).due(94, "statue", 0, 2).due(0, "statue", 0, 5).due(6, "now", 6);
         x.due(2, "clean", 0).due(94, "statue", 0, 2).due(3, "statue", 1, 2).due(3, "clean", 1).due(3, "statue", 1, 2);
         behind(3).due(1, "clean", 2);
+        // the least of the whys: not stained, with too little in its PURSE; evicted, and not stained
+        Check.of(TOWN).due(2, "clean", 2).due(1, "statue", 2, 2);
+        evictedAndClean().due(1, "clean", 0);
         // five pence are enough, four are not
         Check.of("square a 0;kind k;statue s k a 5 0;").due(1, "days", 1, 1).due(0, "clean", 0).due(0, "statue", 0, 2);
         Check.of("square a 0;kind k;statue s k a 4 0;").due(1, "days", 1, 1).due(3, "clean", 0).due(4, "statue", 0, 2);
+    }
+
+    /** It is looked at on day 0 for no pence; at a square without rent its debt is too much at the next dawn. */
+    private static Check evictedAndClean() {
+        Check x = Check.of("square a 9;square b 0;kind k;kind l;statue s k a 0 0;walker w a a 1 0;likes w k 12;");
+        x.due(1, "days", 1, 1).due(0, "statue", 0, 5).due(0, "move", 0, 1).due(1, "days", 1, 1).due(1, "statue", 0, 7);
+        return x.due(0, "statue", 0, 5);
     }
 
     private static void shows() {
@@ -46,6 +56,7 @@ public final class ActsTest {
         x.due(3, "show", 2, 0).due(1, "statue", 2, 0).due(1, "statue", 2, 2).due(2, "show", 2, 1);
         x.due(Check.NONE, "show", 3, 0).due(Check.NONE, "show", -1, 0).due(Check.NONE, "show", 0, 2).due(Check.NONE, "show", 0, -1);
         behind(3).due(1, "show", 2, 1).due(1, "show", 2, 0);
+        evictedAndClean().due(1, "show", 0, 0).due(1, "show", 0, 1).due(1, "move", 0, 0).due(1, "move", 0, 1);
         Check.of("square a 0;kind k;kind l;statue s k a 10 0;").due(0, "show", 0, 1).due(0, "statue", 0, 2);
         Check.of("square a 0;kind k;kind l;statue s k a 9 0;").due(3, "show", 0, 1).due(9, "statue", 0, 2).due(0, "statue", 0, 0);
     }
@@ -59,6 +70,9 @@ public final class ActsTest {
         x.due(Check.NONE, "lend", 0, 0, 1).due(Check.NONE, "lend", 0, 1, 0).due(Check.NONE, "lend", 0, 1, 100);
         x.due(Check.NONE, "lend", 3, 0, 1).due(Check.NONE, "lend", 0, 3, 1).due(Check.NONE, "lend", -1, 0, 1).due(Check.NONE, "lend", 0, -1, 1);
         behind(3).due(1, "lend", 2, 0, 99).due(1, "lend", 0, 2, 1);
+        // one penny of one penny
+        Check z = Check.of("square a 1;square b 0;kind k;statue s k a 0 0;statue t k b 1 0;").due(1, "days", 1, 1);
+        z.due(2, "lend", 1, 0, 2).due(0, "lend", 1, 0, 1).due(0, "statue", 1, 2).due(0, "statue", 0, 3).due(2, "lend", 1, 0, 1);
         // 99 of 99, and what is lent is not counted as paid
         Check y = Check.of("square a 99;square b 0;kind k;statue s k a 0 0;statue t k b 99 0;").due(1, "days", 1, 1).due(0, "now", 4);
         y.due(0, "lend", 1, 0, 99).row("now", 1, 0, 0, 0, 0, 0, 3);
@@ -88,6 +102,17 @@ public final class ActsTest {
             x.due(left, "undo").due(6 + left / 2, "now", 0);
         }
         x.due(Check.NONE, "undo").due(6, "now", 0).due(0, "statue", 0, 1);
+        // just eight, and just nine
+        for (int acts = 8; acts <= 9; acts++) {
+            Check z = Check.of(TOWN);
+            for (int i = 0; i < acts; i++) {
+                z.due(1, "days", 1, i);
+            }
+            for (int left = 7; left >= 0; left--) {
+                z.due(left, "undo").due(acts - 8 + left, "now", 0);
+            }
+            z.due(Check.NONE, "undo").due(acts - 8, "now", 0);
+        }
         // the ring goes on
         x.due(0, "move", 0, 3).due(0, "undo").due(0, "statue", 0, 1).due(Check.NONE, "undo");
         // tiredness, glances and stains come back, too

@@ -13,6 +13,7 @@ public final class AskCityTest {
         ways();
         likings();
         sums();
+        eightOfEach();
         Check.finish();
     }
 
@@ -113,5 +114,23 @@ public final class AskCityTest {
         y.due(1, "days", 1, 1).row("now", 3, 2, 0, 5, 8, 0, 3);
         y.due(1, "days", 1, 1).row("now", 4, 2, 0, 8, 8, 0, 3);
         y.due(1, "days", 1, 1).row("now", 5, 3, 0, 8, 8, 0, 3);
+    }
+
+    /** The last of each sort, where there are as many as may be, and the one behind it. */
+    private static void eightOfEach() {
+        Check x = Check.of(Check.largestCity());
+        x.row("square", new int[] {0}, 1, 0, 2 + 4 + 64 + 128).row("square", new int[] {7}, 8, 7, 1 + 2 + 32 + 64);
+        x.row("statue", new int[] {7}, 2, 7, 97, 0, 27, 0, 0, 0).row("walker", new int[] {7}, 7, 3, 1, 9, 3, 0, 0);
+        x.row("way", new int[] {7}, 7, 1, 3, Check.NONE).row("likes", new int[] {7, 4}, 11, 0, 11, Check.NONE);
+        // b, d, f and h go through the fourth
+        x.due(2 + 8 + 32 + 128, "square", 3, 3);
+        x.due(Check.NONE, "square", 8, 0).missing("statue", 8, 0).missing("walker", 8, 0).due(Check.NONE, "way", 8, 0);
+        x.due(Check.NONE, "likes", 8, 0, 0).due(Check.NONE, "likes", 7, 5, 0).due(748, "now", 2);
+        // bits of all eight
+        StringBuilder poor = new StringBuilder("kind k;arrears 1;");
+        for (int i = 0; i < 8; i++) {
+            poor.append("square q" + (char) ('a' + i) + " 9;statue s" + (char) ('a' + i) + " k q" + (char) ('a' + i) + " 0 0;");
+        }
+        Check.of(poor.toString()).due(0, "solvent").due(3, "days", 3, 1).row("now", 3, 255, 0, 144, 0, 0, 255);
     }
 }

@@ -12,8 +12,11 @@ public final class CityTextTest {
         tooMany();
         theLeastOfOneToken();
         tooManyBytes();
+        aFullCityOfAsManyBytesAsMayBe();
         aFaultLeavesTheCity();
         aNewCityIsNew();
+        anEmptyTextIsACityToo();
+        theFaultOfTheLatestText();
         Check.finish();
     }
 
@@ -60,6 +63,15 @@ public final class CityTextTest {
         bad("square a 1`;", 1, 10);
         bad("square a 1/;", 1, 10);
         bad("square a 1:;", 1, 10);
+        // what goes on and on wraps around to nothing that is told: neither a NUMBER nor a NAME
+        bad("square a 4294967296;", 1, 9);
+        bad("square a 4294967297;", 1, 9);
+        bad("square a 00000000000000000001;", 1, 9);
+        bad("square a 1" + Check.times(800, "0") + ";", 1, 9);
+        bad("kind b;kind " + Check.times(30, "a") + "b;", 1, 12);
+        bad("kind " + Check.times(800, "a") + ";", 1, 5);
+        bad(Check.times(13, "a") + "kind b;", 1, 0);
+        bad("kind" + Check.times(3, "\n") + "a" + Check.bytes(160) + ";", 1, 8);
     }
 
     private static void tokensThatCannotCome() {
@@ -96,6 +108,12 @@ public final class CityTextTest {
         badBehind("likes w;", 1, 7);
         badBehind("likes w k;", 1, 9);
         badBehind("likes w k 1", 1, 11);
+        // a NUMBER stands for no WORD and for no sign, whatever its value
+        for (int n = 0; n < 128; n++) {
+            bad(n + " a;", 1, 0);
+            bad("kind a " + n, 1, 7);
+            bad("kind a;" + n + ";", 1, 7);
+        }
     }
 
     private static void reservedWordsAreNoNames() {
@@ -103,8 +121,21 @@ public final class CityTextTest {
             "day", "or", "and", "not", "evicted", "stained", "solvent", "of", "at", "purse", "owes", "glances", "number"};
         for (String word : words) {
             bad("kind " + word + ";", 1, 5);
+            bad("square " + word + " 1;", 1, 7);
+            badBehind("statue " + word + " l b 1 1;", 1, 7);
+            badBehind("walker " + word + " a b 1 1;", 1, 7);
+            // nor may one stand where a NAME that was told must
+            badBehind("path " + word + " b;", 1, 5);
+            badBehind("path a " + word + ";", 1, 7);
+            badBehind("statue t " + word + " b 1 1;", 1, 9);
+            badBehind("statue t l " + word + " 1 1;", 1, 11);
+            badBehind("walker x " + word + " b 1 1;", 1, 9);
+            badBehind("walker x a " + word + " 1 1;", 1, 11);
+            badBehind("likes " + word + " k 1;", 1, 6);
+            badBehind("likes w " + word + " 1;", 1, 8);
         }
-        badBehind("path a kind;", 1, 7);
+        // a word with a letter more or less is a NAME
+        good("kind squares;kind squar;kind o;kind ora;kind lend;", 5);
     }
 
     private static void numbersNotAsTold() {
@@ -212,6 +243,27 @@ public final class CityTextTest {
         bad(line + "kind" + Check.times(887, " ") + "acdefghi;", 1, 899);
     }
 
+    private static void aFullCityOfAsManyBytesAsMayBe() {
+        String all = Check.largestCity();
+        String last = "likes wh ka 0;";
+        String blanks = Check.times(900 - all.length() - last.length(), " ");
+        Check x = new Check().tape(all + blanks + last).due(900, "count", 6).due(49, "city").due(0, "fault");
+        x.row("count", 8, 16, 5, 8, 8, 9, 0).due(0, "likes", 7, 0, 0).due(11, "likes", 7, 4, 0).due(6, "likes", 7, 3, 0);
+        // the last ';' is one byte too far
+        bad(all + blanks + " " + last, 1, 900);
+        String[] oneMore = {"square qi 1;", "path qa qe;", "kind kf;", "statue si ka qa 0 0;", "walker wi qa qa 1 1;"};
+        for (String more : oneMore) {
+            bad(all + more, 4, all.length());
+        }
+        bad(all + "arrears 9;", 3, all.length());
+        // blanks alone
+        good(Check.times(900, " "), 0);
+        bad(Check.times(901, "\n"), 1, 900);
+        bad(Check.times(940, " "), 1, 900);
+        // the end of a text that is full
+        bad("kind" + Check.times(896, " "), 1, 900);
+    }
+
     private static void aFaultLeavesTheCity() {
         Check x = Check.of(BASE + "arrears 5;");
         x.due(2, "days", 2, 1).due(0, "move", 0, 1);
@@ -236,5 +288,28 @@ public final class CityTextTest {
         y.tape("square a 1;square b 2;kind k;walker w a b 1 1;walker v b b 1 1;").due(5, "city");
         y.row("square", new int[] {0}, 1, Check.NONE, 0, 0).row("square", new int[] {1}, 2, Check.NONE, 0, 2);
         y.due(0, "walker", 0, 4).due(1, "walker", 1, 4).due(1, "way", 1, 0).due(6, "likes", 0, 0, 0).row("count", 2, 0, 1, 0, 2, 3);
+    }
+
+    private static void anEmptyTextIsACityToo() {
+        Check x = Check.of(BASE + "path a b;arrears 5;").due(3, "days", 3, 1).tape("evicted").due(1, "sentence");
+        x.tape("").due(0, "city").due(0, "fault").row("count", 0, 0, 0, 0, 0, 3, 0).row("now", 0, 0, 0, 0, 0, 0, 0);
+        x.due(Check.NONE, "square", 0, 0).missing("statue", 0, 0).missing("walker", 0, 0).due(Check.NONE, "said", Check.NONE);
+        x.due(Check.NONE, "undo").due(0, "solvent").due(60, "days", 60, 1);
+    }
+
+    private static void theFaultOfTheLatestText() {
+        Check x = Check.of(BASE).due(0, "fault").tape("arrears 0;").due(-9, "city").due(2, "fault");
+        x.tape("t cleans;").due(-2, "log", 0).due(3, "fault").tape("").due(-1, "sentence").due(1, "fault");
+        x.tape("((((((((evicted))))))))").due(-9, "sentence").due(4, "fault");
+        // other calls leave it, those that read the tape, too
+        x.tape(Check.bytes(0, 1)).due(2, "taste", 0).due(4, "fault").tape(Check.bytes(1, 1)).due(0, "grass").due(4, "fault");
+        x.tape(Check.bytes(9)).due(Check.NONE, "taste", 0).due(Check.NONE, "grass").due(1, "days", 1, 1).due(0, "undo").due(4, "fault");
+        x.due(1, "image", 0).due(1, "restore", 0).due(0, "end", -1).due(Check.NONE, "move", 9, 9).due(-1000, "log", 3).due(4, "fault");
+        // one without a FAULT takes it away, whichever text had it
+        x.tape("day 1;").due(Check.NONE, "log", 0).due(0, "fault").tape("of a").due(-4, "sentence").due(3, "fault");
+        x.tape("of k").due(1, "sentence").due(0, "fault").tape(";").due(-2, "log", 1).due(1, "fault");
+        // a LOG that is WRONG has no FAULT
+        x.tape("s moves a;").due(0, "log", 1).due(0, "fault").tape("kind").due(-5, "city").due(1, "fault");
+        x.tape("kind k;").due(1, "city").due(0, "fault");
     }
 }

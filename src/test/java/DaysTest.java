@@ -11,6 +11,10 @@ public final class DaysTest {
         firstDraws();
         purseHasALimit();
         stainedIsHalf();
+        everyDividesTheDay();
+        tiredThreeTimesAndRested();
+        theEvictedAreLeftAlone();
+        drawsThatWrapAround();
         dawnByRentTimesArrears();
         seedGoesOnFromDayToDay();
         for (int seed : SEEDS) {
@@ -61,6 +65,11 @@ public final class DaysTest {
         x.due(1, "days", 1, 1).due(999, "statue", 0, 2).due(1, "statue", 0, 6);
         Check y = Check.of("square a 0;kind k;statue s k a 989 0;walker w a a 1 9;likes w k 12;");
         y.due(1, "days", 1, 1).due(998, "statue", 0, 2);
+        Check z = Check.of("square a 0;kind k;statue s k a 990 0;walker w a a 1 9;walker v a a 1 9;likes w k 12;likes v k 12;");
+        z.due(1, "days", 1, 1).due(999, "statue", 0, 2).due(2, "statue", 0, 6);
+        // the rent is paid of the 999 alone
+        Check u = Check.of("square a 2;kind k;statue s k a 999 0;walker w a a 1 9;likes w k 12;");
+        u.due(1, "days", 1, 1).due(997, "statue", 0, 2).due(2, "now", 4).due(1, "statue", 0, 6);
     }
 
     /** On day 0 he does not look (he likes it 0 as it is), on day 1 he likes what it shows. */
@@ -68,6 +77,84 @@ public final class DaysTest {
         Check x = Check.of("square a 0;kind k;kind l;statue s k a 10 0;walker w a a 1 9;likes w k 0;likes w l 12;");
         x.due(1, "days", 1, 1).due(1, "statue", 0, 5).due(0, "show", 0, 1).due(1, "days", 1, 1);
         x.due(4, "statue", 0, 2).due(1, "statue", 0, 5);
+        // half of one is nothing, but he looked; half of nothing, too
+        for (int worth = 0; worth <= 1; worth++) {
+            Check y = Check.of("square a 0;kind k;kind l;statue s k a 10 0;walker w a a 1 " + worth + ";likes w k 0;likes w l 12;");
+            y.due(1, "days", 1, 1).due(0, "show", 0, 1).due(0, "statue", 0, 2).due(1, "days", 1, 1);
+            y.due(0, "statue", 0, 2).due(1, "statue", 0, 6).due(1, "walker", 0, 5).due(1, "likes", 0, 1, 1);
+        }
+    }
+
+    /** Who does not go every day rests between, so that a liking of 12 is a look each time he goes: on day 0, too. */
+    private static void everyDividesTheDay() {
+        for (int every = 2; every <= 7; every++) {
+            Check x = Check.of("square a 0;kind k;statue s k a 0 0;walker w a a " + every + " 1;likes w k 12;");
+            for (int day = 0; day < 15; day++) {
+                x.due(1, "days", 1, 5).due(day / every + 1, "walker", 0, 5).due(day % every == 0 ? 1 : 0, "likes", 0, 0, 1);
+            }
+        }
+    }
+
+    /** By a seed whose first draw is 0 he looks if his chance is above 0. */
+    private static void tiredThreeTimesAndRested() {
+        Check x = Check.of("square a 0;square b 0;kind k;kind l;statue s k a 0 0;walker w a a 1 1;likes w k 12;likes w l 12;");
+        int seed = 0;
+        while (drawn(next(seed), 12) != 0) {
+            seed++;
+        }
+        int[] tired = {1, 2, 3, 3};
+        for (int t : tired) {
+            x.due(1, "days", 1, seed).due(t, "likes", 0, 0, 1).due(0, "likes", 0, 1, 1);
+        }
+        x.due(0, "move", 0, 1);
+        int[] rested = {2, 1, 0, 0};
+        for (int t : rested) {
+            x.due(1, "days", 1, seed).due(t, "likes", 0, 0, 1).due(t > 0 ? 1 : 0, "walker", 0, 6);
+        }
+        // a chance of 4 halved three times is 0: nothing is below it
+        Check y = Check.of("square a 0;kind k;statue s k a 0 0;walker w a a 1 1;likes w k 4;");
+        int[] looks = {1, 2, 3, 3, 4};
+        int[] then = {1, 2, 3, 2, 3};
+        for (int i = 0; i < 5; i++) {
+            y.due(1, "days", 1, seed).due(looks[i], "walker", 0, 5).due(then[i], "likes", 0, 0, 1);
+        }
+    }
+
+    /** Its purse, what it owes and its stains stay; nobody draws for it, and its square may be taken. */
+    private static void theEvictedAreLeftAlone() {
+        Check x = Check.of("square a 9;square b 0;square c 0;path a b;kind k;statue s k a 0 0;statue t k c 0 0;walker w a b 1 0;likes w k 12;");
+        x.due(1, "days", 1, 1).due(0, "statue", 0, 5).due(9, "statue", 0, 3).due(0, "move", 0, 1);
+        x.due(1, "days", 1, 1).row("statue", new int[] {0}, 0, Check.NONE, 0, 9, 0, 0, 1, 1);
+        x.due(40, "days", 40, 1).row("statue", new int[] {0}, 0, Check.NONE, 0, 9, 0, 0, 1, 1).due(0, "now", 4);
+        x.due(Check.NONE, "square", 1, 1).due(0, "move", 1, 1).due(1, "square", 1, 1);
+        // the first draw is for the one that stands, as if the evicted one had never been
+        int seed = 1;
+        for (int i = 0; i < 5; i++) {
+            int chance = x.subject.likes(0, 0, 2);
+            int had = x.subject.statue(1, 6);
+            x.due(1, "days", 1, seed).due(had + (drawn(next(seed), 12) < chance ? 1 : 0), "statue", 1, 6);
+            seed = seed * 31 + 7;
+        }
+    }
+
+    /** Seeds by which x * 1103515245 + 12345 goes beyond an int on both sides, and by which x is below 0. */
+    private static void drawsThatWrapAround() {
+        int[] seeds = {2, 3, -2, -3, 1 << 30, -(1 << 30), Integer.MAX_VALUE, Integer.MIN_VALUE, Integer.MIN_VALUE + 1};
+        for (int seed : seeds) {
+            int x = seed;
+            int looks = 0;
+            for (int i = 0; i < 8; i++) {
+                long whole = x * 1103515245L + 12345L;
+                x = (int) whole;
+                long unsigned = whole & 0xffffffffL;
+                looks += unsigned / 256 % 12 < 6 ? 1 : 0;
+            }
+            StringBuilder town = new StringBuilder("square a 0;kind k;statue s k a 0 0;");
+            for (int w = 0; w < 8; w++) {
+                town.append("walker w" + (char) ('a' + w) + " a a 1 1;");
+            }
+            Check.of(town.toString()).due(1, "days", 1, seed).due(looks, "statue", 0, 6).due(looks, "now", 5);
+        }
     }
 
     private static void dawnByRentTimesArrears() {

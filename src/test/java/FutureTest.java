@@ -11,6 +11,7 @@ public final class FutureTest {
         bareDays();
         chances();
         nothingChanges();
+        nearTheLastDay();
         Check.finish();
     }
 
@@ -93,14 +94,29 @@ public final class FutureTest {
 
     private static void nothingChanges() {
         Check x = town(3).due(7, "days", 7, 5);
-        int[] before = new int[7];
-        for (int what = 0; what < 7; what++) {
-            before[what] = x.subject.now(what);
-        }
-        int tired = x.subject.likes(0, 0, 1);
+        String before = x.picture();
         x.subject.law(1, 60, 9);
         x.subject.bare(60, 9);
-        x.subject.odds(0, 30, 9);
-        x.row("now", before).due(tired, "likes", 0, 0, 1).due(3, "count", 5).due(0, "undo").due(Check.NONE, "undo");
+        x.unchanged(before).subject.odds(0, 30, 9);
+        x.unchanged(before).due(0, "undo").due(Check.NONE, "undo");
+    }
+
+    /** So many days are over; then it stands where it owes 3 in the first evening, 6 in the next, and is evicted then. */
+    private static Check debtorFrom(int day) {
+        Check x = Check.of("square a 0;square b 3;kind k;statue s k a 0 0;arrears 1;");
+        x.tape(Check.times(6, "day 60;") + "day " + (day - 360) + ";").due(Check.NONE, "log", 1).due(day, "now", 0);
+        return x.due(0, "move", 0, 1);
+    }
+
+    private static void nearTheLastDay() {
+        // at the dawn of the last day; by other laws it would be at one that never comes
+        Check x = debtorFrom(397).due(399, "bare", 60, 1).due(399, "bare", 3, 1).due(Check.NONE, "bare", 2, 1);
+        x.due(0, "odds", 0, 5, 1).due(1, "law", 1, 2, 1).due(2, "law", 1, 3, 1).due(2, "law", 1, 60, 1).due(3, "days", 60, 1).due(1, "now", 1);
+        // a day later no dawn is left for it
+        Check y = debtorFrom(398).due(Check.NONE, "bare", 60, 1).due(5, "odds", 0, 5, 1).due(1, "law", 1, 60, 1);
+        y.due(2, "days", 60, 1).due(0, "now", 1).due(6, "statue", 0, 3);
+        // all are over: who owes too much stays
+        y.due(400, "now", 0).due(Check.NONE, "bare", 60, 1).due(30, "odds", 0, 30, 1).due(1, "law", 1, 60, 1).due(0, "days", 60, 1);
+        y.due(0, "now", 1);
     }
 }

@@ -27,6 +27,12 @@ public final class GuessTest {
         x.due(0, "show", 2, 4).tape(Check.bytes(2, 1)).due(16, "taste", 0).due(16, "surely").due(0, "tells");
         // as it was then
         x.due(0, "show", 2, 1).due(16, "surely").due(0, "tells");
+        // all five are known: one set, of all of them or of none
+        Check z = Check.of("square a 1;square b 1;square c 1;square d 1;square e 1;kind k;kind l;kind m;kind n;kind o;"
+                + "statue s k a 1 1;statue t l b 1 1;statue u m c 1 1;statue v n d 1 1;statue x o e 1 1;walker w a a 1 1;");
+        z.tape(Check.bytes(0, 1, 1, 1, 2, 1, 3, 1, 4, 1)).due(1, "taste", 0).due(31, "surely").due(0, "tells");
+        z.tape(Check.bytes(0, 0, 1, 0, 2, 0, 3, 0, 4, 0)).due(1, "taste", 0).due(0, "surely").due(0, "tells");
+        z.tape(Check.bytes(4, 1)).due(16, "taste", 0).due(16, "surely").due(0, "tells");
         // one set alone parts nothing: the first statue
         Check y = Check.of("square a 1;square b 1;kind k;kind l;statue s l a 1 1;statue t k b 1 1;walker w a a 1 1;");
         y.tape(Check.bytes(0, 1, 1, 0)).due(1, "taste", 0).due(2, "surely").due(0, "tells");

@@ -12,6 +12,8 @@ public final class LogTest {
         fortyLines();
         tooManyBytes();
         anotherLives();
+        theLastLineIsWrong();
+        judgingLeavesAllAsItIs();
         Check.finish();
     }
 
@@ -117,6 +119,29 @@ public final class LogTest {
         bad("s shows a;", 3, 8);
         bad("s lends w 1;", 3, 8);
         bad("s cleans;s moves a;s moves", 1, 26);
+        // TOKENS go on as long as letters and digits do
+        bad("day1;", 1, 0);
+        bad("day 1x;", 1, 4);
+        bad("s1 cleans;", 1, 0);
+        bad("s movess d;", 1, 2);
+        bad("s moves\td;", 1, 7);
+        bad("day 4294967297;", 1, 4);
+        bad("abcdefgh cleans;", 1, 0);
+        bad("day 1;" + Check.bytes(255), 1, 6);
+        bad("s lends t 1 1;", 1, 12);
+        bad("s shows;", 1, 7);
+        bad("s shows 1;", 1, 8);
+        bad("s shows x;", 3, 8);
+        bad("s lends x 1;", 3, 8);
+        bad("k cleans;", 3, 0);
+        bad("day 1;day 1", 1, 11);
+        bad(" \nday", 1, 5);
+        // a NUMBER stands for no WORD and for no sign
+        for (int n = 0; n < 128; n++) {
+            bad(n + " 1;", 1, 0);
+            bad("s " + n + " d;", 1, 2);
+            bad("day 1 " + n, 1, 6);
+        }
         // the borders of what may be
         judged("day 12;", "s lends t 99;", 0, 31, 0, 12, 6);
         judged("", "s lends t 99;day 60;", 0, 33, 0, 0, 0);
@@ -140,6 +165,20 @@ public final class LogTest {
         bad("day 1;" + Check.times(394, " ") + "day 1;", 1, 400);
         bad("day" + Check.times(396, " ") + "61;", 2, 399);
         bad("day" + Check.times(396, " ") + "60;", 1, 400);
+        bad("day 1;" + Check.times(393, " ") + "xyz;", 3, 399);
+        bad("day 1;" + Check.times(393, " ") + "s cleans;", 1, 400);
+        bad("day 1;" + Check.times(393, " ") + "day", 1, 400);
+        bad("day 1;" + Check.times(388, " ") + "abcdefghijklmn;", 1, 394);
+        // the last ';' is the last byte, or one too far
+        judged("", Check.times(394, " ") + "day 1;", Check.NONE, 0, 1, 1, 0);
+        bad(Check.times(395, " ") + "day 1;", 1, 400);
+        judged("", Check.times(400, "\n"), Check.NONE, 0, 0, 0, 0);
+        bad(Check.times(401, "\n"), 1, 400);
+        bad(Check.times(940, " "), 1, 400);
+        bad("day" + Check.times(397, " "), 1, 400);
+        // a FAULT ahead, with more bytes than may be behind it
+        bad("day 0;" + Check.times(600, " "), 2, 4);
+        bad(Check.times(40, "day 1;") + "day 1;" + Check.times(600, " "), 4, 240);
     }
 
     private static void anotherLives() {
@@ -147,5 +186,20 @@ public final class LogTest {
         x.tape("day 1;").due(-1000, "log", 2).due(-1000, "log", -1).due(1, "fault").due(6, "count", 6).due(Check.NONE, "logged", 0);
         x.due(Check.NONE, "log", 0).due(0, "fault").row("logged", 0, 1, 1, 0).due(0, "count", 6);
         x.tape("day 2;").due(-1000, "log", Integer.MAX_VALUE).row("logged", 0, 1, 1, 0);
+    }
+
+    private static void theLastLineIsWrong() {
+        judged("", Check.times(39, "day 1;") + "u cleans;", 39, 11, 39, 39, 6);
+        judged("", "s moves d;" + Check.times(39, "day 1;"), Check.NONE, 0, 40, 39, 6);
+    }
+
+    private static void judgingLeavesAllAsItIs() {
+        Check x = Check.of(TOWN).due(1, "days", 1, 5).tape("purse > 9").due(1, "sentence");
+        String before = x.pictureOfTheCity();
+        x.tape("s moves d;s cleans;s shows l;day 3;t moves a;day 20;u cleans;").due(4, "log", 0).row("logged", 1, 4, 4, 6);
+        if (!x.pictureOfTheCity().equals(before)) {
+            Check.fail("changed by a LOG that was judged: " + x.pictureOfTheCity());
+        }
+        x.due(0, "undo").due(Check.NONE, "undo");
     }
 }

@@ -16,8 +16,12 @@ public final class MoneyTest {
         cheapestCure();
         cureOfAStainedOne();
         cureOfLikeOnesIsTheFirst();
+        cureThatComesLater();
         noCure();
         plots();
+        todayIsTheLastDay();
+        nobodyIsThere();
+        askingChangesNothing();
         Check.finish();
     }
 
@@ -208,10 +212,30 @@ public final class MoneyTest {
         cured(Check.of(town + "likes u k 12;likes v k 12;"), 8, 0, 0, 2);
     }
 
+    /** The cheapest one comes behind dearer ones, by KIND and by SQUARE. */
+    private static void cureThatComesLater() {
+        String town = "square a %d;square b %d;square c %d;kind k;kind l;kind m;statue s l b 0 0;"
+                + "walker u a a 1 9;walker v b b 1 9;walker w c c 1 9;likes u k 12;likes u l 12;likes v k 12;likes v l 0;likes w l 12;";
+        // as it is
+        cured(Check.of(String.format(town, 0, 0, 0)), 0, 0, 1, 1);
+        // k at a for 18, k at b for 10, l at a for 8
+        cured(Check.of(String.format(town, 9, 9, 9)), 8, 0, 1, 0);
+        // k at b for 10, l at c for 8
+        cured(Check.of(String.format(town, 99, 9, 9)), 8, 0, 1, 2);
+        // k at b for 10 alone
+        cured(Check.of(String.format(town, 99, 9, 10)), 10, 0, 0, 1);
+        // k or m at b for 10; k, l or m at a for 18, 8, 18
+        cured(Check.of(String.format(town, 10, 4, 10)), 10, 0, 0, 1);
+        cured(Check.of(String.format(town, 4, 10, 10)), 8, 0, 1, 0);
+    }
+
     private static void noCure() {
         Check x = Check.of("square a 9;square b 8;kind k;statue s k a 0 0;walker w b b 1 7;likes w k 12;arrears 1;");
         x.row("cured", Check.NONE, Check.NONE, Check.NONE);
         x.due(Check.NONE, "cure", 0).due(Check.NONE, "cure", 1).due(Check.NONE, "cure", -1).due(Check.NONE, "cured", 0);
+        // there is no other KIND, though one that nobody told of would be liked
+        Check.of("square a 1;kind k;statue s k a 0 0;walker w a a 1 9;likes w k 0;").due(Check.NONE, "cure", 0);
+        Check.of("square a 1;kind k;kind l;statue s k a 0 0;walker w a a 1 9;likes w k 0;").due(10, "cure", 0).row("cured", 0, 1, 0);
         // none for the evicted, and what was told before stays
         Check y = Check.of("square a 9;square b 0;kind k;statue s k a 0 0;arrears 1;").due(8, "cure", 0).row("cured", 0, 0, 1);
         y.due(3, "days", 3, 1).due(1, "now", 1).due(Check.NONE, "cure", 0).row("cured", 0, 0, 1, Check.NONE);
@@ -236,5 +260,49 @@ public final class MoneyTest {
             eight.append("walker w" + letter(w) + " a a 1 2;");
         }
         Check.of(eight.toString()).due(8, "plot", 0).due(255, "plotters");
+    }
+
+    private static void todayIsTheLastDay() {
+        // he goes each third day, rested, and it was stained on day 1
+        Check x = Check.of("square a 0;kind k;statue s k a 0 0;walker w a a 3 9;likes w k 12;");
+        x.tape(Check.times(6, "day 60;") + "day 39;").due(Check.NONE, "log", 1).due(399, "now", 0);
+        fraction(x, 4, 1, "today", 0);
+        x.due(1, "days", 1, 1).missing("today", 0, 0).missing("today", 0, 1).missing("today", 1, 0).due(1, "solvent");
+        fraction(x, 4, 3, "yields", 0, 0, 0);
+    }
+
+    private static void nobodyIsThere() {
+        // no walkers: rent 0 is earned whoever looks away, rent 1 never is
+        Check x = Check.of("square a 0;square b 1;kind k;statue s k a 0 0;statue t k b 0 0;").due(1, "solvent");
+        x.due(Check.NONE, "plot", 0).due(Check.NONE, "plotters").due(0, "plot", 1).due(0, "plotters").due(0, "cure", 0).due(Check.NONE, "cure", 1);
+        fraction(x, 0, 1, "today", 0);
+        fraction(x, 0, 1, "yields", 1, 1, 0);
+        // all are evicted: nobody is to be placed
+        Check y = Check.of("square a 9;kind k;statue s k a 0 0;arrears 1;").due(-9, "placing", 0).due(1, "placing", 1).due(0, "placed", 0);
+        y.due(3, "days", 3, 1).due(1, "now", 1).due(Check.NONE, "placed", 0).due(0, "solvent");
+        fraction(y, 0, 1, "placing");
+    }
+
+    private static void askingChangesNothing() {
+        Check x = Check.of("square a 2;square b 1;square c 1;path a b;kind k;kind l;statue s k a 20 0;statue t l b 20 0;"
+                + "walker u a b 1 4;walker v b b 2 9;likes u k 3;").due(3, "days", 3, 1);
+        String before = x.pictureOfTheCity();
+        for (int a = 0; a < 2; a++) {
+            x.subject.yields(a, 2, 1 - a, 0);
+            x.subject.today(a, 0);
+            x.subject.placed(a);
+            x.subject.cure(a);
+            x.subject.plot(a);
+            x.subject.route(a, 8);
+            x.subject.bids(a, 8);
+            x.subject.plaque(a);
+        }
+        x.subject.placing(0);
+        x.subject.solvent();
+        x.tape(Check.bytes(0, 1)).due(2, "taste", 0).tape(Check.bytes(0, 0, 0)).due(1, "grass");
+        if (!x.pictureOfTheCity().equals(before)) {
+            Check.fail("changed by asking: " + x.pictureOfTheCity() + " was " + before);
+        }
+        x.due(0, "undo").due(Check.NONE, "undo");
     }
 }

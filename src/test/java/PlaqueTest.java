@@ -23,6 +23,13 @@ public final class PlaqueTest {
         plaque(x, 0, "zeus owes 892");
         x.due(0, "move", 2, 0);
         plaque(x, 2, "abcdefg is at alt");
+        // the digits of what it owes
+        Check y = Check.of("square a 9;square b 99;kind k;statue s k a 0 0;statue t k b 0 0;arrears 9;").due(1, "days", 1, 1);
+        plaque(y, 0, "s owes 9");
+        plaque(y, 1, "t owes 99");
+        y.due(9, "days", 9, 1);
+        plaque(y, 0, "s owes 90");
+        plaque(y, 1, "t owes 990");
         Check.finish();
     }
 

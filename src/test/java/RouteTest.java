@@ -27,6 +27,10 @@ public final class RouteTest {
         routeIs(x, 13, 1, 8, 1, 0, 2);
         routeIs(x, 11, 4, 8, 4, 3, 0, 2);
         routeIs(x, 4, 4, 3, 4, 3, 0);
+        // the most of all, where no path goes
+        Check y = Check.of("square a 1;square b 1;square c 1;path a b;kind k;statue s k c 9 99;statue t k b 9 1;");
+        routeIs(y, 1, 0, 8, 0, 1);
+        routeIs(y, 99, 2, 8, 2);
         // what is not so leaves what was told
         x.due(Check.NONE, "route", 0, 0).due(Check.NONE, "route", 0, 9).due(Check.NONE, "route", 5, 1).due(Check.NONE, "route", -1, 1);
         x.due(Check.NONE, "route", 0, -1).due(Check.NONE, "route", Integer.MAX_VALUE, 3).row("routeAt", 4, 3, 0, Check.NONE);

@@ -14,6 +14,7 @@ public final class SentenceTest {
         deepOnes();
         tooManyBytes();
         aFaultLeavesTheSentence();
+        numbersAtTheBorders();
         Check.finish();
     }
 
@@ -30,6 +31,10 @@ public final class SentenceTest {
 
     private static void bad(String text, int kind, int place) {
         town().tape(text).due(-1 - place, "sentence").due(kind, "fault").due(0, "count", 6).due(Check.NONE, "said", Check.NONE);
+    }
+
+    private static void badAlone(String text, int kind, int place) {
+        new Check().tape(text).due(-1 - place, "sentence").due(kind, "fault").due(Check.NONE, "said", Check.NONE);
     }
 
     private static void plainOnes() {
@@ -129,6 +134,34 @@ public final class SentenceTest {
         bad("at w", 3, 3);
         bad("evicted or of x or", 3, 14);
         said("purse<999", 1, 0, 1, 2, 3);
+        // TOKENS go on as long as letters and digits do
+        bad("purse<1a", 1, 6);
+        bad("purse1<1", 1, 0);
+        bad("notevicted", 1, 0);
+        bad("not evicted1", 1, 4);
+        bad("evicted\t", 1, 7);
+        bad("purse < 4294967297", 1, 8);
+        bad("purse <" + Check.bytes(200), 1, 7);
+        bad("at ax", 3, 3);
+        bad("at abcdefgh", 1, 3);
+        bad("number", 1, 6);
+        bad("owes > <", 1, 7);
+        bad("glances ; 1", 1, 8);
+        bad("purse < (", 1, 8);
+        bad("(not)", 1, 4);
+        bad("not and evicted", 1, 4);
+        bad("evicted not evicted", 1, 8);
+        bad("evicted (evicted)", 1, 8);
+        bad("(evicted or)", 1, 11);
+        bad("(evicted))", 1, 9);
+        bad("((evicted)", 1, 10);
+        // a NUMBER stands for no WORD and for no sign
+        for (int n = 0; n < 128; n++) {
+            badAlone(n + " evicted", 1, 0);
+            badAlone("evicted " + n + " evicted", 1, 8);
+            badAlone("number " + n + " 1", 1, 7);
+            badAlone("(evicted " + n, 1, 9);
+        }
     }
 
     private static void manyOnes() {
@@ -168,6 +201,17 @@ public final class SentenceTest {
         bad("at" + Check.times(197, " ") + "ax", 3, 199);
         bad("at" + Check.times(197, " ") + "a x", 1, 200);
         bad("at" + Check.times(190, " ") + "abcdefgh", 1, 192);
+        // the last TOKEN ends with the last byte, or one too far
+        said(Check.times(193, " ") + "evicted", 1, 2);
+        bad(Check.times(194, " ") + "evicted", 1, 200);
+        bad(Check.times(200, " "), 1, 200);
+        bad(Check.times(201, " "), 1, 200);
+        bad(Check.times(940, "\n"), 1, 200);
+        bad("evicted and" + Check.times(189, " "), 1, 200);
+        bad("evicted and" + Check.times(189, " ") + "evicted", 1, 200);
+        // a FAULT ahead, with more bytes than may be behind it
+        bad("of a" + Check.times(600, " "), 3, 3);
+        bad("((((((((evicted))))))))" + Check.times(200, " "), 4, 8);
     }
 
     private static void aFaultLeavesTheSentence() {
@@ -175,5 +219,22 @@ public final class SentenceTest {
         x.tape("of l or of").due(-11, "sentence").due(1, "fault").due(2, "said", Check.NONE).row("said", 0, 1, Check.NONE);
         x.tape("square").due(-7, "city").row("said", 0, 1, Check.NONE);
         x.tape("of l").due(1, "sentence").due(0, "fault").row("said", 2, 3, Check.NONE);
+    }
+
+    private static void numbersAtTheBorders() {
+        // none, some and all of it: s has 999, t nothing
+        String town = "square a 0;square b 0;kind k;statue s k a 999 0;statue t k b 0 0;";
+        String[] texts = {"purse < 0", "purse = 0", "purse > 0", "purse < 999", "purse = 999", "purse > 999", "purse > 998",
+            "owes < 0", "owes = 0", "owes > 0", "glances < 1", "glances > 0", "number < 0", "number = 1", "number > 1", "number < 2"};
+        int[][] wants = {{}, {1}, {0}, {1}, {0}, {}, {0}, {}, {0, 1}, {}, {0, 1}, {}, {}, {1}, {}, {0, 1}};
+        for (int i = 0; i < texts.length; i++) {
+            Check x = Check.of(town).tape(texts[i]).due(1, "sentence").due(wants[i].length, "said", Check.NONE).row("said", wants[i]);
+            x.due(Check.NONE, "said", wants[i].length).due(Check.NONE, "said", Integer.MIN_VALUE);
+        }
+        // the last of each sort
+        Check x = Check.of(Check.largestCity());
+        x.tape("number = 7").due(1, "sentence").due(1, "said", Check.NONE).due(7, "said", 0).due(Check.NONE, "said", 1);
+        x.tape("number > 7").due(1, "sentence").due(0, "said", Check.NONE).tape("at qh").due(1, "sentence").due(7, "said", 0);
+        x.tape("of ke").due(1, "sentence").due(4, "said", 0).due(Check.NONE, "said", 1);
     }
 }

@@ -35,6 +35,16 @@ public final class TapeTest {
         // "95; " and no blanks behind
         x.due(40, "feed", 0x39353b20, 0x80ffffff, -1, -2, -3).due(1, "end", 24);
         x.due(2, "city").due(7, "square", 0, 0).due(95, "square", 1, 0);
+        // they come behind what is there: "kin", then "d k;" with ".." behind it, which is cut
+        Check y = new Check().tape("kin").due(23, "feed", 0x64206b3b, 0x2e2e2e2e, -1, 0, 0).due(1, "end", 7).due(1, "city").due(1, "count", 2);
+        // nothing behind the end is read: neither a TOKEN, nor what one would go on with, nor a byte for a SQUARE
+        y.tape("kind ab;").due(1, "end", 7).due(-8, "city").due(1, "fault").tape("kind k;kind abc;").due(1, "end", 14).due(-15, "city");
+        y.tape("arrears 50;").due(1, "end", 9).due(-10, "city").due(1, "fault").tape("not evicted").due(1, "end", 3).due(-4, "sentence");
+        Check z = Check.of("square a 1;square b 1;kind k;statue s k a 1 1;walker w a a 1 1;");
+        z.due(20, "feed", 0x01000101, -1, -1, -1, -1).due(1, "end", 2).due(1, "grass").due(1, "trodden");
+        z.due(20, "feed", 0x00010001, 0x09090909, -1, -1, -1).due(1, "end", 4).due(1, "taste", 0).due(1, "surely");
+        // what was cut does not come again
+        y.tape("kind a;.").due(1, "end", 5).due(25, "feed", 0x7a7a3b20, 0x20202020, 0x20202020, 0x20202020, 0x20202020).due(1, "city");
         // as pairs a byte is 0 to 255, never below 0
         Check.of("square a 1;kind k;statue s k a 1 1;walker w a a 1 1;").tape(Check.bytes(0, 255)).due(Check.NONE, "taste", 0);
     }
