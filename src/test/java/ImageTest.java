@@ -1,4 +1,4 @@
-/** Promises 45 and 46: image, restore. */
+/** Promises 45 and 46: image, restore; and what other calls told last, which they leave. */
 public final class ImageTest {
     private static final String TOWN = "square a 1;square b 9;path a b;kind k;kind l;statue s k a 50 3;statue t l b 9 4;"
             + "walker w a b 1 5;likes w k 12;arrears 2;";
@@ -8,6 +8,7 @@ public final class ImageTest {
         keepsAllThatIsSo();
         keepsTheCity();
         leavesWhatWasTold();
+        aNewCityLeavesWhatWasTold();
         Check.finish();
     }
 
@@ -74,12 +75,34 @@ public final class ImageTest {
         x.due(1, "restore", 0).row("count", 0, 0, 0, 0, 0, 3).missing("statue", 0, 0).due(Check.NONE, "said", Check.NONE);
     }
 
-    private static void leavesWhatWasTold() {
+    /** An image is kept, then all is told that can be, and some is so that was not. */
+    private static Check told() {
         Check x = Check.of(TOWN).due(1, "image", 0);
         x.due(7, "route", 0, 2).due(1, "bids", 0, 2).due(0, "cure", 0).due(9, "plaque", 1).due(0, "plot", 1);
         x.tape(Check.bytes(0, 1)).due(2, "taste", 0).tape(Check.bytes(1, 1)).due(1, "grass");
-        x.tape("day 2;").due(Check.NONE, "log", 1).tape("of").due(-3, "sentence").tape("abc");
-        x.due(1, "restore", 0).due(1, "fault").due(3, "count", 6).row("routeAt", 0, 1).row("bid", 3, 4).due(0, "now", 0);
-        x.row("cured", 0, 0, 0).due('t', "byteAt", 0).due(0, "plotters").due(1, "surely").due(1, "tells").due(1, "trodden").due(2, "logged", 2);
+        return x.tape("day 2;").due(Check.NONE, "log", 1).tape("of").due(-3, "sentence").due(2, "now", 0);
+    }
+
+    private static void stillTold(Check x) {
+        x.row("routeAt", 0, 1, Check.NONE).row("bid", 3, 4, Check.NONE).row("cured", 0, 0, 0, Check.NONE);
+        x.row("byteAt", 't', ' ', 'i', 's', ' ', 'a', 't', ' ', 'b', Check.NONE).due(0, "plotters");
+        x.due(1, "surely").due(1, "tells").due(1, "trodden").row("logged", 0, 1, 2, 0, Check.NONE);
+    }
+
+    private static void leavesWhatWasTold() {
+        Check x = told().tape("abc").due(1, "restore", 0).due(1, "fault").due(3, "count", 6).due(0, "now", 0);
+        stillTold(x);
+    }
+
+    /** A new CITY, a smaller one, leaves it, too: it is told by the CITY of those calls. */
+    private static void aNewCityLeavesWhatWasTold() {
+        Check x = told().tape("square z 5;").due(1, "city").due(0, "fault").due(0, "now", 0);
+        stillTold(x);
+        x.tape("").due(0, "city");
+        stillTold(x);
+        // what is NONE in the new CITY is not the latest
+        x.due(Check.NONE, "route", 0, 1).due(Check.NONE, "bids", 0, 1).due(Check.NONE, "cure", 0).due(Check.NONE, "plot", 0);
+        x.due(Check.NONE, "plaque", 0).tape(Check.bytes(0, 1)).due(Check.NONE, "taste", 0).tape("").due(Check.NONE, "grass");
+        stillTold(x);
     }
 }

@@ -54,6 +54,9 @@ public final class LogTest {
         judged("day 1;", "u lends t 1;", 0, 32, 0, 1, 0);
         judged("", "s lends t 1;", 0, 33, 0, 0, 0);
         judged("", "s moves d;s lends s 1;s lends t 1;", 1, 39, 1, 0, 0);
+        // to itself, whatever else would be wrong: evicted, a purse below it
+        judged("day 3;", "u lends u 1;", 0, 39, 0, 3, 4);
+        judged("", "u lends u 99;", 0, 39, 0, 0, 0);
         // the least of the whys
         judged("day 3;", "u moves c;", 0, 1, 0, 3, 4);
         judged("", "u shows l;", 0, 22, 0, 0, 0);

@@ -9,6 +9,7 @@ public final class MoneyTest {
         yieldsAreFractions();
         solventByRent();
         earnedToday();
+        todayIsByChancesAlone();
         placingIsTheBest();
         placingOfLikeOnesIsTheFirst();
         placingWithoutTheEvicted();
@@ -88,6 +89,18 @@ public final class MoneyTest {
         Check z = Check.of("square a 0;kind k;kind l;statue s k a 10 0;walker w a a 1 9;likes w k 0;likes w l 5;");
         z.due(1, "days", 1, 1).due(0, "show", 0, 1);
         fraction(z, 5, 3, "today", 0);
+    }
+
+    /** Neither this day's dawn nor a full purse takes from it. */
+    private static void todayIsByChancesAlone() {
+        Check x = Check.of("square a 9;kind k;statue s k a 0 0;walker w a a 2 3;likes w k 12;arrears 1;").due(2, "days", 2, 1);
+        x.due(15, "statue", 0, 3).due(1, "statue", 0, 5).due(0, "now", 1);
+        fraction(x, 1, 1, "today", 0);
+        x.due(1, "days", 1, 1).due(1, "now", 1).missing("today", 0, 0);
+        Check y = Check.of("square a 0;kind k;statue s k a 999 0;walker w a a 1 9;likes w k 12;");
+        fraction(y, 9, 1, "today", 0);
+        y.due(1, "days", 1, 1).due(999, "statue", 0, 2).due(1, "statue", 0, 6);
+        fraction(y, 9, 2, "today", 0);
     }
 
     private static void placingIsTheBest() {
